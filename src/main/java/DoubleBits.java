@@ -96,7 +96,7 @@ public final class DoubleBits {
             return Bits.round(0, whole, 0);
         }
         // The least long has no opposite among the longs.
-        if (whole == Long.MIN_VALUE) {
+        if (whole == Bits.SIGN) {
             return Bits.round(Bits.SIGN, 1, 63);
         }
         return Bits.round(Bits.SIGN, -whole, 0);
@@ -1045,7 +1045,7 @@ public final class DoubleBits {
             }
             int chunk = radix;
             int digitsOfChunk = 1;
-            while (chunk < (1 << Natural.LIMB_BITS) / radix) {
+            while (digitsOfChunk < Natural.LIMB_BITS && chunk < (1 << Natural.LIMB_BITS) / radix) {
                 chunk *= radix;
                 digitsOfChunk++;
             }

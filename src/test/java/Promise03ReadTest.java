@@ -1,4 +1,7 @@
+import java.math.BigDecimal;
 import java.math.BigInteger;
+import java.math.MathContext;
+import java.math.RoundingMode;
 import java.util.Random;
 
 /** Promise 3: read. */
@@ -16,6 +19,7 @@ final class Promise03ReadTest {
         countsTwentyDigits();
         readsLongTexts();
         readsManyDecimals();
+        readsNearTheMiddle();
         readsManyHexadecimals();
         Check.end();
     }
@@ -179,6 +183,23 @@ final class Promise03ReadTest {
             if (!Double.isNaN(number) && !Double.isInfinite(number)) {
                 due(Double.toString(number), number);
             }
+        }
+    }
+
+    /** Decimals of twenty digits just below and above the middle of two numbers, or on it. */
+    private static void readsNearTheMiddle() {
+        Random random = new Random(13);
+        for (int i = 0; i < 20000; i++) {
+            long fraction = random.nextLong() >>> 12;
+            int[] fields = {0, 1 + random.nextInt(2045), 1023 + random.nextInt(70)};
+            long a = (long) fields[i % 3] << 52 | fraction;
+            BigDecimal low = new BigDecimal(Double.longBitsToDouble(a));
+            BigDecimal middle = low.add(new BigDecimal(Double.longBitsToDouble(a + 1))).divide(BigDecimal.valueOf(2));
+            BigDecimal down = middle.round(new MathContext(20, RoundingMode.DOWN));
+            BigDecimal up = middle.round(new MathContext(20, RoundingMode.UP));
+            due(down.toString(), down.doubleValue());
+            due(up.toString(), up.doubleValue());
+            due(down.subtract(down.ulp()).toString(), down.subtract(down.ulp()).doubleValue());
         }
     }
 

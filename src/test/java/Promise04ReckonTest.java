@@ -16,6 +16,7 @@ final class Promise04ReckonTest {
             all(a, Check.anyBits(random));
             all(a, near(a, random));
         }
+        productsNearTheMiddle(random);
         writtenOutCases();
         refusesWhatThereIsNot();
         Check.end();
@@ -25,6 +26,23 @@ final class Promise04ReckonTest {
     private static long near(long a, Random random) {
         long other = a + ((long) (random.nextInt(9) - 4) << 52) + random.nextInt(9) - 4;
         return random.nextBoolean() ? other : other ^ Long.MIN_VALUE;
+    }
+
+    /** Mantissas whose product ends in a half of the last place, one less or one more. */
+    private static void productsNearTheMiddle(Random random) {
+        for (int i = 0; i < 20000; i++) {
+            long x = 1L << 52 | random.nextLong() >>> 12 | 1;
+            long inverse = x;
+            for (int k = 0; k < 6; k++) {
+                inverse *= 2 - x * inverse;
+            }
+            for (long near = -2; near <= 2; near++) {
+                long y = ((1L << 52) + near) * inverse & (1L << 53) - 1;
+                all(Check.bits((double) x), Check.bits((double) y));
+                y = ((1L << 51) + near) * inverse & (1L << 52) - 1 | 1L << 52;
+                all(Check.bits((double) x), Check.bits(-(double) y));
+            }
+        }
     }
 
     private static void all(long a, long b) {

@@ -2,17 +2,33 @@ import java.util.Random;
 
 /** What the tests share: counting wrong answers, exceptions, texts, and numbers to try. */
 final class Check {
+    static final long NAN = 0x7FF8000000000000L;
+    static final long SIGN = 0x8000000000000000L;
+    static final double INFINITE = Double.POSITIVE_INFINITY;
     /** What an exception's name is due as when none is thrown. */
-    static final String NOTHING = "nothing";
+    private static final String NOTHING = "nothing";
+    private static final int UNITS_AT_ONCE = 500;
 
     interface Call {
         void run();
     }
 
+    /** A call that writes, and answers how many units. */
+    interface Writing {
+        int on(Subject x);
+    }
+
     private static int wrong = 0;
     private static int looked = 0;
+    private static String sentence = "";
+    private static Subject subject = new Subject();
 
     private Check() {
+    }
+
+    /** The words of the document that the answers from here on are tried against. */
+    static void sentence(String words) {
+        sentence = words;
     }
 
     static void same(String what, long got, long due) {
@@ -38,19 +54,22 @@ final class Check {
     }
 
     static void throwsJust(String what, Class<? extends RuntimeException> due, Call call) {
-        String got = NOTHING;
+        same(what + " throws", thrownBy(call), due.getSimpleName());
+    }
+
+    static String thrownBy(Call call) {
         try {
             call.run();
         } catch (RuntimeException e) {
-            got = e.getClass().getSimpleName();
+            return e.getClass().getSimpleName();
         }
-        same(what + " throws", got, due.getSimpleName());
+        return NOTHING;
     }
 
     private static void tell(String line) {
         wrong++;
         if (wrong <= 50) {
-            System.out.println(line);
+            System.out.println(sentence.isEmpty() ? line : "[" + sentence + "] " + line);
         }
     }
 
@@ -65,8 +84,33 @@ final class Check {
         return Double.doubleToRawLongBits(a);
     }
 
+    /** An object that may still be used for so many calls; the same one as long as it may. */
+    static Subject subject(int calls) {
+        if (subject.callsLeft() < calls) {
+            subject = new Subject();
+        }
+        return subject;
+    }
+
+    static void reckons(double a, double b, int what, double due) {
+        reckonsBits(bits(a), bits(b), what, bits(due));
+    }
+
+    static void reckonsBits(long a, long b, int what, long due) {
+        same("reckon(" + Long.toHexString(a) + ", " + Long.toHexString(b) + ", " + what + ")",
+                subject(1).reckon(a, b, what), due);
+    }
+
+    static void turns(double a, int what, double due) {
+        turnsBits(bits(a), what, bits(due));
+    }
+
+    static void turnsBits(long a, int what, long due) {
+        same("turn(" + Long.toHexString(a) + ", " + what + ")", subject(1).turn(a, what), due);
+    }
+
     /** Puts a text in parts of one to four units. */
-    static void putText(DoubleBits x, String text) {
+    static void putText(Subject x, String text) {
         int size = 4;
         for (int i = 0; i < text.length(); i += size) {
             size = Math.min(1 + i % 4, text.length() - i);
@@ -78,19 +122,77 @@ final class Check {
         }
     }
 
-    static long readText(DoubleBits x, String text) {
+    static long readText(Subject x, String text) {
         putText(x, text);
         return x.read();
     }
 
-    /** What was written last, as long as a call said it is. */
-    static String written(DoubleBits x, int length) {
+    /** A text is read as a number, and is empty afterwards. */
+    static void readsBits(String text, long due) {
+        Subject x = subject(text.length() / 4 + 10);
+        String told = text.length() < 60 ? text : text.substring(0, 60) + ".. (" + text.length() + " units)";
+        same("read of '" + told + "'", readText(x, text), due);
+        same("read afterwards", x.read(), 0);
+    }
+
+    static void reads(String text, double due) {
+        readsBits(text, bits(due));
+    }
+
+    static void readsNan(String... texts) {
+        for (String text : texts) {
+            readsBits(text, NAN);
+        }
+    }
+
+    /** All units that a call wrote; a long text is written on several objects and looked at in parts. */
+    static String written(Writing writing) {
+        Subject x = subject(80);
+        int length = writing.on(x);
         StringBuilder text = new StringBuilder();
-        for (int k = 0; k < length; k++) {
+        if (length + 1 <= x.callsLeft()) {
+            addUnits(text, x, 0, length);
+        } else {
+            for (int k = 0; k < length; k += UNITS_AT_ONCE) {
+                x = new Subject();
+                same("how many units, written again", writing.on(x), length);
+                addUnits(text, x, k, Math.min(k + UNITS_AT_ONCE, length));
+            }
+        }
+        Subject last = x;
+        throwsJust("unit behind the last", IndexOutOfBoundsException.class, () -> last.unit(length));
+        return text.toString();
+    }
+
+    private static void addUnits(StringBuilder text, Subject x, int from, int to) {
+        for (int k = from; k < to; k++) {
             text.append((char) x.unit(k));
         }
-        throwsJust("unit behind the last", IndexOutOfBoundsException.class, () -> x.unit(length));
-        return text.toString();
+    }
+
+    static void writesBits(long a, String due) {
+        same("write(" + Long.toHexString(a) + ")", written(x -> x.write(a)), due);
+    }
+
+    static void writes(double a, String due) {
+        writesBits(bits(a), due);
+    }
+
+    static void writesBitsInRadix(long a, int radix, String due) {
+        same("radix(" + Long.toHexString(a) + ", " + radix + ")", written(x -> x.radix(a, radix)), due);
+    }
+
+    static void writesInRadix(double a, int radix, String due) {
+        writesBitsInRadix(bits(a), radix, due);
+    }
+
+    static void formsBits(long a, int form, int digits, String due) {
+        same("form(" + Long.toHexString(a) + ", " + form + ", " + digits + ")",
+                written(x -> x.form(a, form, digits)), due);
+    }
+
+    static void forms(double a, int form, int digits, String due) {
+        formsBits(bits(a), form, digits, due);
     }
 
     /** Numbers at the edges of every kind, finite, infinite and NAN, with both signs. */
@@ -106,7 +208,7 @@ final class Check {
             Math.nextDown(1e21), 1e21, Math.nextUp(1e21), 1e22, 1e23, 1e100, 0x1p1023,
             Math.nextDown(Double.MAX_VALUE), Double.MAX_VALUE, Double.POSITIVE_INFINITY
         };
-        long[] nans = {0x7FF8000000000000L, 0xFFF8000000000000L, 0x7FF0000000000001L, -1L};
+        long[] nans = nans();
         long[] all = new long[2 * some.length + nans.length];
         for (int i = 0; i < some.length; i++) {
             all[2 * i] = bits(some[i]);
@@ -114,6 +216,14 @@ final class Check {
         }
         System.arraycopy(nans, 0, all, 2 * some.length, nans.length);
         return all;
+    }
+
+    /** The first and the last fraction that makes a NAN, those around the usual one, with both signs. */
+    static long[] nans() {
+        return new long[] {
+            0x7FF0000000000001L, 0x7FF7FFFFFFFFFFFFL, NAN, 0x7FF8000000000001L, 0x7FFFFFFFFFFFFFFFL,
+            0xFFF0000000000001L, 0xFFF7FFFFFFFFFFFFL, 0xFFF8000000000000L, 0xFFF8000000000001L, 0xFFFFFFFFFFFFFFFFL
+        };
     }
 
     /** Any bits; or small wholes, few bits, near exponents or short decimals, which meet edges more often. */
@@ -126,7 +236,7 @@ final class Check {
             case 2:
                 return random.nextLong() & 0x800FFFFFFFFFFFFFL | (long) (1023 + random.nextInt(64) - 8) << 52;
             case 3:
-                return random.nextLong() & (0x8000000000000000L | (1L << random.nextInt(54)) - 1);
+                return random.nextLong() & (SIGN | (1L << random.nextInt(54)) - 1);
             case 4:
                 return bits((random.nextInt(200001) - 100000) / Math.pow(10, random.nextInt(9)));
             default:

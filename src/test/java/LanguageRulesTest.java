@@ -7,9 +7,11 @@ import java.util.regex.Pattern;
 /** Words that LANGUAGE.md, or the document's "by whole numbers alone", keeps out of the class. */
 final class LanguageRulesTest {
     private static final String[] KEPT_OUT = {
-        "\\bimport\\b", "\\bpackage\\b", "\\bdouble\\b", "\\bfloat\\b", "\\b(Double|Float|BigInteger|BigDecimal)\\b",
-        "\\b(try|catch|finally|assert|synchronized|native|var)\\b", "->", "::", "\\bstatic\\s*\\{", "\\w+Exact\\b",
-        "\\bstatic (?!final\\b)[\\w\\[\\]]+ \\w+ ?[=;]", "\\b(hashCode|toString|getMessage)\\b", "\\bSystem\\.(?!arraycopy)"
+        "\\bimport (?!java\\.util\\.(ArrayList|List|Iterator|Arrays|NoSuchElementException);)", "\\bpackage\\b",
+        "\\b(double|float|Double|Float|BigInteger|BigDecimal|StrictMath)\\b", "\\b(finally|assert|synchronized|native)\\b",
+        "(?m)^(?!\\s*(case|default)\\b).*->", "::", "\\bstatic\\s*\\{", "\\w+Exact\\b", "\\b(hashCode|getMessage)\\b",
+        "\\bstatic (?!final\\b)[\\w\\[\\]]+ \\w+ ?[=;]", "\\bSystem\\.(?!arraycopy\\b)",
+        "\\bcatch \\(\\s*(Exception|Throwable|Error|\\w*(Array\\w*|NullPointer|ClassCast|NegativeArraySize)Exception)\\b"
     };
 
     public static void main(String[] args) throws IOException {

@@ -1,44 +1,65 @@
+import java.lang.reflect.Constructor;
+import java.lang.reflect.Field;
+import java.lang.reflect.Method;
+import java.lang.reflect.Modifier;
+import java.util.TreeSet;
+
 /** Promise 1: a new object has no text, and nothing is written. */
 final class Promise01NewObjectTest {
     public static void main(String[] args) {
-        Check.same("the first unit put into a new object", new DoubleBits().put('1', 1), 1);
-        Check.same("read() of a new object", new DoubleBits().read(), 0);
-        for (int k : new int[] {0, 1, -1, Integer.MAX_VALUE, Integer.MIN_VALUE}) {
-            Check.throwsJust("unit(" + k + ") of a new object", IndexOutOfBoundsException.class,
-                    () -> new DoubleBits().unit(k));
-        }
+        noText();
+        nothingWritten();
         objectsAreApart();
         theFaceIsTheDocuments();
         Check.end();
     }
 
+    private static void noText() {
+        Check.sentence("No text");
+        Check.same("the first unit put into a new object", new Subject().put('1', 1), 1);
+        Check.same("read() of a new object", new Subject().read(), 0);
+    }
+
+    private static void nothingWritten() {
+        Check.sentence("nothing written");
+        for (int k : new int[] {0, 1, -1, Integer.MAX_VALUE, Integer.MIN_VALUE}) {
+            Check.throwsJust("unit(" + k + ") of a new object", IndexOutOfBoundsException.class,
+                    () -> new Subject().unit(k));
+        }
+    }
+
     private static void objectsAreApart() {
-        DoubleBits one = new DoubleBits();
-        DoubleBits other = new DoubleBits();
+        Check.sentence("an object that is made while another one is in use");
+        Subject one = new Subject();
+        Subject other = new Subject();
         Check.putText(one, "12");
         one.write(Check.bits(7));
-        Check.same("read() of the other object", other.read(), 0);
-        Check.throwsJust("unit(0) of the other object", IndexOutOfBoundsException.class, () -> other.unit(0));
-        Check.same("read() of the one object", one.read(), Check.bits(12));
+        Subject third = new Subject();
+        for (Subject x : new Subject[] {other, third}) {
+            Check.same("read()", x.read(), 0);
+            Check.throwsJust("unit(0)", IndexOutOfBoundsException.class, () -> x.unit(0));
+        }
+        Check.same("read() of the one in use", one.read(), Check.bits(12));
+        Check.same("unit(0) of the one in use", one.unit(0), '7');
     }
 
     private static void theFaceIsTheDocuments() {
-        StringBuilder names = new StringBuilder();
-        java.util.TreeSet<String> sorted = new java.util.TreeSet<>();
-        for (java.lang.reflect.Method method : DoubleBits.class.getDeclaredMethods()) {
-            if (!java.lang.reflect.Modifier.isPrivate(method.getModifiers())) {
-                sorted.add(method.getName());
+        Check.sentence("The public face");
+        Check.isTrue("public and final", Modifier.isPublic(DoubleBits.class.getModifiers())
+                && Modifier.isFinal(DoubleBits.class.getModifiers()));
+        TreeSet<String> names = new TreeSet<>();
+        for (Method method : DoubleBits.class.getDeclaredMethods()) {
+            if (!Modifier.isPrivate(method.getModifiers()) && !method.isSynthetic()) {
+                names.add(method.getName());
             }
         }
-        for (String name : sorted) {
-            names.append(name).append(' ');
+        Check.same("the methods", String.join(" ", names), "compare form of put radix read reckon turn unit whole write");
+        for (Constructor<?> constructor : DoubleBits.class.getConstructors()) {
+            Check.same("a constructor's parameters", constructor.getParameterCount(), 0);
         }
-        Check.same("the methods of the face", names.toString(),
-                "compare form of put radix read reckon turn unit whole write ");
-        Check.same("how many constructors", DoubleBits.class.getDeclaredConstructors().length, 1);
-        for (java.lang.reflect.Field field : DoubleBits.class.getDeclaredFields()) {
+        for (Field field : DoubleBits.class.getDeclaredFields()) {
             Check.isTrue("field " + field.getName() + " is private",
-                    java.lang.reflect.Modifier.isPrivate(field.getModifiers()));
+                    Modifier.isPrivate(field.getModifiers()) || field.isSynthetic());
         }
     }
 }

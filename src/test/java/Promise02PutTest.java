@@ -9,7 +9,7 @@ final class Promise02PutTest {
     }
 
     private static void countsAndOrders() {
-        DoubleBits x = new DoubleBits();
+        Subject x = new Subject();
         Check.same("put of four", x.put(0x0031_0032_0033_0034L, 4), 4);
         Check.same("put of one more", x.put('5', 1), 5);
         Check.same("put of two more", x.put(0x0036_0037L, 2), 7);
@@ -20,7 +20,7 @@ final class Promise02PutTest {
     }
 
     private static void looksAtTheLowestBitsAlone() {
-        DoubleBits x = new DoubleBits();
+        Subject x = new Subject();
         x.put(0xFFFF_FFFF_FFFF_0037L, 1);
         x.put(0xFFFF_1234_0038_0039L, 2);
         x.put(0x8000_0031_0032_0033L, 3);
@@ -32,7 +32,7 @@ final class Promise02PutTest {
     }
 
     private static void refusesWrongCounts() {
-        DoubleBits x = new DoubleBits();
+        Subject x = new Subject();
         x.put('4', 1);
         for (int n : new int[] {0, 5, -1, 6, 64, Integer.MAX_VALUE, Integer.MIN_VALUE}) {
             Check.throwsJust("put of " + n, IllegalArgumentException.class, () -> x.put('1', n));
@@ -42,7 +42,7 @@ final class Promise02PutTest {
     }
 
     private static void refusesMoreThan600() {
-        DoubleBits x = new DoubleBits();
+        Subject x = new Subject();
         for (int i = 0; i < 149; i++) {
             x.put(0x0020_0020_0020_0020L, 4);
         }

@@ -6,8 +6,7 @@ import java.util.Random;
 
 /** Promise 3: read. */
 final class Promise03ReadTest {
-    private static final long NAN = 0x7FF8000000000000L;
-    private static DoubleBits x = new DoubleBits();
+    private static final long NAN = Check.NAN;
 
     public static void main(String[] args) {
         readsBlanks();
@@ -25,8 +24,7 @@ final class Promise03ReadTest {
     }
 
     private static void dueBits(String text, long bits) {
-        Check.same("read of '" + text + "'", Check.readText(x, text), bits);
-        Check.same("read afterwards", x.read(), 0);
+        Check.readsBits(text, bits);
     }
 
     private static void due(String text, double number) {

@@ -2,8 +2,6 @@ import java.util.Random;
 
 /** Promise 4: reckon. */
 final class Promise04ReckonTest {
-    private static final DoubleBits X = new DoubleBits();
-
     public static void main(String[] args) {
         for (long a : Check.edges()) {
             for (long b : Check.edges()) {
@@ -56,8 +54,7 @@ final class Promise04ReckonTest {
     }
 
     private static void due(long a, long b, int what, double due) {
-        Check.same("reckon(" + Long.toHexString(a) + ", " + Long.toHexString(b) + ", " + what + ")",
-                X.reckon(a, b, what), Double.doubleToLongBits(due));
+        Check.reckonsBits(a, b, what, Double.doubleToLongBits(due));
     }
 
     private static void writtenOutCases() {
@@ -81,7 +78,7 @@ final class Promise04ReckonTest {
         for (int what : new int[] {-1, 5, 6, Integer.MAX_VALUE, Integer.MIN_VALUE}) {
             for (long a : new long[] {0, Check.bits(1), 0x7FF8000000000000L}) {
                 Check.throwsJust("reckon with what " + what, IllegalArgumentException.class,
-                        () -> X.reckon(a, a, what));
+                        () -> Check.subject(1).reckon(a, a, what));
             }
         }
     }

@@ -4,8 +4,6 @@ import java.util.Random;
 
 /** Promise 5: turn. */
 final class Promise05TurnTest {
-    private static final DoubleBits X = new DoubleBits();
-
     public static void main(String[] args) {
         for (long a : Check.edges()) {
             all(a);
@@ -45,7 +43,7 @@ final class Promise05TurnTest {
     }
 
     private static void due(long a, int what, double due) {
-        Check.same("turn(" + Long.toHexString(a) + ", " + what + ")", X.turn(a, what), Double.doubleToLongBits(due));
+        Check.turnsBits(a, what, Double.doubleToLongBits(due));
     }
 
     private static void writtenOutCases() {
@@ -69,7 +67,8 @@ final class Promise05TurnTest {
     private static void refusesWhatThereIsNot() {
         for (int what : new int[] {-1, 7, 8, Integer.MAX_VALUE, Integer.MIN_VALUE}) {
             for (long a : new long[] {0, Check.bits(1), 0x7FF8000000000000L}) {
-                Check.throwsJust("turn with what " + what, IllegalArgumentException.class, () -> X.turn(a, what));
+                Check.throwsJust("turn with what " + what, IllegalArgumentException.class,
+                        () -> Check.subject(1).turn(a, what));
             }
         }
     }

@@ -2,8 +2,6 @@ import java.util.Random;
 
 /** Promise 6: compare. */
 final class Promise06CompareTest {
-    private static final DoubleBits X = new DoubleBits();
-
     public static void main(String[] args) {
         for (long a : Check.edges()) {
             for (long b : Check.edges()) {
@@ -17,10 +15,11 @@ final class Promise06CompareTest {
             due(a, a);
             due(a, a + 1);
         }
-        Check.same("the zeros", X.compare(0, Long.MIN_VALUE), 0);
-        Check.same("1 and 2", X.compare(Check.bits(1), Check.bits(2)), -1);
-        Check.same("-1 and -2", X.compare(Check.bits(-1), Check.bits(-2)), 1);
-        Check.same("NAN and itself", X.compare(0x7FF8000000000000L, 0x7FF8000000000000L), 2);
+        Subject x = new Subject();
+        Check.same("the zeros", x.compare(0, Long.MIN_VALUE), 0);
+        Check.same("1 and 2", x.compare(Check.bits(1), Check.bits(2)), -1);
+        Check.same("-1 and -2", x.compare(Check.bits(-1), Check.bits(-2)), 1);
+        Check.same("NAN and itself", x.compare(Check.NAN, Check.NAN), 2);
         Check.end();
     }
 
@@ -28,6 +27,7 @@ final class Promise06CompareTest {
         double x = Double.longBitsToDouble(a);
         double y = Double.longBitsToDouble(b);
         int due = x < y ? -1 : x == y ? 0 : x > y ? 1 : 2;
-        Check.same("compare(" + Long.toHexString(a) + ", " + Long.toHexString(b) + ")", X.compare(a, b), due);
+        Check.same("compare(" + Long.toHexString(a) + ", " + Long.toHexString(b) + ")",
+                Check.subject(1).compare(a, b), due);
     }
 }

@@ -4,8 +4,6 @@ import java.util.Random;
 
 /** Promise 7: whole. */
 final class Promise07WholeTest {
-    private static final DoubleBits X = new DoubleBits();
-
     public static void main(String[] args) {
         for (long a : Check.edges()) {
             all(a);
@@ -39,7 +37,7 @@ final class Promise07WholeTest {
     }
 
     private static void due(long a, int what, long due) {
-        Check.same("whole(" + Long.toHexString(a) + ", " + what + ")", X.whole(a, what), due);
+        Check.same("whole(" + Long.toHexString(a) + ", " + what + ")", Check.subject(1).whole(a, what), due);
     }
 
     private static void writtenOutCases() {
@@ -55,7 +53,8 @@ final class Promise07WholeTest {
     private static void refusesWhatThereIsNot() {
         for (int what : new int[] {-1, 3, 4, Integer.MAX_VALUE, Integer.MIN_VALUE}) {
             for (long a : new long[] {0, Check.bits(1), 0x7FF8000000000000L}) {
-                Check.throwsJust("whole with what " + what, IllegalArgumentException.class, () -> X.whole(a, what));
+                Check.throwsJust("whole with what " + what, IllegalArgumentException.class,
+                        () -> Check.subject(1).whole(a, what));
             }
         }
     }

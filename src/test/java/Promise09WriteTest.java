@@ -6,8 +6,6 @@ import java.util.Random;
 
 /** Promise 9: write. */
 final class Promise09WriteTest {
-    private static final DoubleBits X = new DoubleBits();
-
     public static void main(String[] args) {
         writtenOutCases();
         for (long a : Check.edges()) {
@@ -35,7 +33,7 @@ final class Promise09WriteTest {
     }
 
     private static void dueBits(long a, String due) {
-        Check.same("write(" + Long.toHexString(a) + ")", Check.written(X, X.write(a)), due);
+        Check.writesBits(a, due);
     }
 
     private static void due(double a, String due) {

@@ -4,8 +4,6 @@ import java.util.Random;
 
 /** Promise 10: radix. */
 final class Promise10RadixTest {
-    private static final DoubleBits X = new DoubleBits();
-
     public static void main(String[] args) {
         writtenOutCases();
         for (long a : Check.edges()) {
@@ -22,7 +20,7 @@ final class Promise10RadixTest {
     }
 
     private static void dueBits(long a, int radix, String due) {
-        Check.same("radix(" + Long.toHexString(a) + ", " + radix + ")", Check.written(X, X.radix(a, radix)), due);
+        Check.writesBitsInRadix(a, radix, due);
     }
 
     private static void due(double a, int radix, String due) {
@@ -88,12 +86,15 @@ final class Promise10RadixTest {
     }
 
     private static void refusesOtherRadices() {
-        X.write(Check.bits(42));
+        Subject x = new Subject();
+        x.write(Check.bits(42));
         for (int radix : new int[] {10, 1, 0, -1, -2, 37, 38, Integer.MAX_VALUE, Integer.MIN_VALUE}) {
             for (long a : new long[] {0, Check.bits(1.5), 0x7FF8000000000000L}) {
-                Check.throwsJust("radix " + radix, IllegalArgumentException.class, () -> X.radix(a, radix));
+                Check.throwsJust("radix " + radix, IllegalArgumentException.class, () -> x.radix(a, radix));
             }
         }
-        Check.same("what was written before", Check.written(X, 2), "42");
+        Check.same("what was written before, unit 0", x.unit(0), '4');
+        Check.same("what was written before, unit 1", x.unit(1), '2');
+        Check.throwsJust("unit(2)", IndexOutOfBoundsException.class, () -> x.unit(2));
     }
 }

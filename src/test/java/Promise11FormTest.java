@@ -8,7 +8,6 @@ final class Promise11FormTest {
     private static final int FIXED = 0;
     private static final int EXPONENTIAL = 1;
     private static final int PRECISE = 2;
-    private static final DoubleBits X = new DoubleBits();
 
     public static void main(String[] args) {
         writtenOutFixed();
@@ -34,8 +33,7 @@ final class Promise11FormTest {
     }
 
     private static void dueBits(long a, int form, int digits, String due) {
-        Check.same("form(" + Long.toHexString(a) + ", " + form + ", " + digits + ")",
-                Check.written(X, X.form(a, form, digits)), due);
+        Check.formsBits(a, form, digits, due);
     }
 
     private static void due(double a, int form, int digits, String due) {
@@ -135,7 +133,7 @@ final class Promise11FormTest {
 
     /** Texts as such are promise 9's: there they are tried against the document's words. */
     private static String text(double number) {
-        return Check.written(X, X.write(Check.bits(number)));
+        return Check.written(x -> x.write(Check.bits(number)));
     }
 
     private static String fixed(double number, int digits) {
@@ -186,28 +184,31 @@ final class Promise11FormTest {
     }
 
     private static void refusesWhatThereIsNot() {
-        X.write(Check.bits(42));
+        Subject x = new Subject();
+        x.write(Check.bits(42));
         for (long a : new long[] {0, Check.bits(1.5), 0x7FF8000000000000L, Check.bits(1e300)}) {
             for (int form : new int[] {-1, 3, 4, Integer.MAX_VALUE, Integer.MIN_VALUE}) {
-                refuses(a, form, 1);
+                refuses(x, a, form, 1);
             }
-            refuses(a, FIXED, -1);
-            refuses(a, FIXED, 21);
-            refuses(a, EXPONENTIAL, -2);
-            refuses(a, EXPONENTIAL, 21);
-            refuses(a, PRECISE, 0);
-            refuses(a, PRECISE, -1);
-            refuses(a, PRECISE, 22);
+            refuses(x, a, FIXED, -1);
+            refuses(x, a, FIXED, 21);
+            refuses(x, a, EXPONENTIAL, -2);
+            refuses(x, a, EXPONENTIAL, 21);
+            refuses(x, a, PRECISE, 0);
+            refuses(x, a, PRECISE, -1);
+            refuses(x, a, PRECISE, 22);
             for (int form = 0; form < 3; form++) {
-                refuses(a, form, Integer.MAX_VALUE);
-                refuses(a, form, Integer.MIN_VALUE);
+                refuses(x, a, form, Integer.MAX_VALUE);
+                refuses(x, a, form, Integer.MIN_VALUE);
             }
         }
-        Check.same("what was written before", Check.written(X, 2), "42");
+        Check.same("what was written before, unit 0", x.unit(0), '4');
+        Check.same("what was written before, unit 1", x.unit(1), '2');
+        Check.throwsJust("unit(2)", IndexOutOfBoundsException.class, () -> x.unit(2));
     }
 
-    private static void refuses(long a, int form, int digits) {
+    private static void refuses(Subject x, long a, int form, int digits) {
         Check.throwsJust("form " + form + " of " + digits + " digits", IllegalArgumentException.class,
-                () -> X.form(a, form, digits));
+                () -> x.form(a, form, digits));
     }
 }

@@ -246,6 +246,10 @@ final class BoundsOfFormsTest {
         exponential(7e10, 0, "7e+10");
         exponential(7e99, 1, "7.0e+99");
         exponential(7e100, 1, "7.0e+100");
+        exponential(7e199, 1, "7.0e+199");
+        exponential(7e299, 0, "7e+299");
+        exponential(7e300, 0, "7e+300");
+        exponential(7e-199, 1, "7.0e-199");
         exponential(7e-9, 0, "7e-9");
         exponential(7e-10, 0, "7e-10");
         exponential(7e-99, 1, "7.0e-99");

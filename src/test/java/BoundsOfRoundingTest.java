@@ -5,6 +5,7 @@ final class BoundsOfRoundingTest {
 
     public static void main(String[] args) {
         nearest();
+        asNearToTheMiddleAsCanBe();
         ofTwoAsNearTheEvenOne();
         aCarryGoesIntoTheExponent();
         nearestOfTheLeastNumbers();
@@ -45,6 +46,27 @@ final class BoundsOfRoundingTest {
         Check.reads("0x20000000000000ff", 0x1p61);
         Check.reads("0x200000000000010000000000000001", 0x1p117 + 0x1p65);
         Check.reads("0x20000000000000ffffffffffffffff", 0x1p117);
+    }
+
+    private static void asNearToTheMiddleAsCanBe() {
+        Check.sentence("the nearest number, of what is as near to the middle of two as can be, but not in it");
+        // 1 of 2^53 or 2^52 parts of a last place above the middle, then below it; the even neighbour is the other one
+        Check.reckons(0x1.d76d4f1446bebp0, 0x1.7a0b42fae64c3p0, 2, 0x1.5c1611e746c7dp1);
+        Check.reckons(0x1.28276e6a16a3bp0, 0x1.a4a13dc6bdef3p0, 2, 0x1.e69b3969cd655p0);
+        Check.reckons(0x1.687c9377b9aa3p0, 0x1.df1e8749916f5p0, 2, 0x1.51560a83cb415p1);
+        Check.reckons(0x1.c30d828dbd25fp0, -0x1.0c5bb0e32f661p0, 2, -0x1.d8d3b2235ca57p0);
+        // the rest is 1 of the divisor's parts above the middle, then below it
+        Check.reckons(0x1.7e176504f3975p0, 0x1.9e306238642ebp0, 3, 0x1.d8529049b551fp-1);
+        Check.reckons(-0x1.0e3a2f7e7a5b5p0, 0x1.2a759fb7ff337p0, 3, -0x1.cf918116ae6bdp-1);
+        Check.reckons(0x1.ce7914abf1e73p0, 0x1.f7f35f0e3cd97p0, 3, 0x1.d5dc1bf71c113p-1);
+        Check.reckons(0x1.30b595fc09303p0, -0x1.5af844f596727p0, 3, -0x1.c1a398af9cc4bp-1);
+        Check.turns(0x1.654bae1c50ceep0, 0, 0x1.2e6fad8466bb3p0);
+        Check.turns(0x1.a7b5782a5c77dp0, 0, 0x1.4958d74773483p0);
+        Check.turns(0x1.26cce833d2834p0, 0, 0x1.12b74eec543adp0);
+        // two digits far behind the middle, and one
+        Check.reads("0x20000000000001000000000000000101", 0x1p125 + 0x1p73);
+        Check.reads("0x20000000000001000000000000000001", 0x1p125 + 0x1p73);
+        Check.reads("0x20000000000000ffffffffffffffffff", 0x1p125);
     }
 
     private static void ofTwoAsNearTheEvenOne() {

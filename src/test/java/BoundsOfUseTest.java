@@ -3,6 +3,8 @@ final class BoundsOfUseTest {
     private static final String WORDS = "An object is used for at most 512 calls after it has been made";
     /** What an object and 512 calls may make at most, in bytes: 7.3 million fields of four. */
     private static final long MOST_BYTES = 4 * 7_300_000L;
+    private static final int KINDS = 11;
+    private static final int UNIT = 10;
 
     public static void main(String[] args) {
         Check.sentence(WORDS);
@@ -12,6 +14,7 @@ final class BoundsOfUseTest {
         refusedCallsWearNothingOut();
         the512DearestCallsAnswer();
         callsFitTheRoom();
+        callsMakeNothing();
         Check.end();
     }
 
@@ -19,7 +22,7 @@ final class BoundsOfUseTest {
     private static Subject nearlyUsedUp() {
         Subject x = new Subject();
         for (int i = 0; i < Subject.MOST_CALLS - 1; i++) {
-            callOfKind(x, i % 11);
+            callOfKind(x, i % KINDS);
         }
         Check.same("calls left", x.callsLeft(), 1);
         return x;
@@ -103,12 +106,7 @@ final class BoundsOfUseTest {
 
     private static void callsFitTheRoom() {
         Check.sentence("All that is made is made once");
-        Object bean = java.lang.management.ManagementFactory.getThreadMXBean();
-        if (!(bean instanceof com.sun.management.ThreadMXBean threads) || !threads.isThreadAllocatedMemorySupported()) {
-            return;
-        }
-        long me = Thread.currentThread().getId();
-        long before = threads.getThreadAllocatedBytes(me);
+        long before = bytesMade();
         Subject x = new Subject();
         while (x.callsLeft() > 4) {
             x.radix(Check.bits(-Double.MAX_VALUE), 2);
@@ -116,6 +114,37 @@ final class BoundsOfUseTest {
             x.form(0x8000000000000001L, 1, 20);
             x.form(Check.bits(-1e-6), 2, 21);
         }
-        Check.isTrue("512 calls fit the room", threads.getThreadAllocatedBytes(me) - before < MOST_BYTES);
+        Check.isTrue("512 calls fit the room", bytesMade() - before < MOST_BYTES);
+    }
+
+    /** Of each kind of call: were one object made by each, the least one has 16 bytes. */
+    private static void callsMakeNothing() {
+        Check.sentence("All that is made is made once, and not by calls");
+        for (int kind = 0; kind < KINDS; kind++) {
+            bytesMadeBy512Calls(kind);
+            Check.isTrue("512 calls of kind " + kind + " make nothing",
+                    bytesMadeBy512Calls(kind) < 8 * Subject.MOST_CALLS);
+        }
+    }
+
+    private static long bytesMadeBy512Calls(int kind) {
+        Subject x = new Subject();
+        if (kind == UNIT) {
+            x.write(Check.bits(12.5));
+        }
+        long before = bytesMade();
+        while (x.callsLeft() > 0) {
+            callOfKind(x, kind);
+        }
+        return bytesMade() - before;
+    }
+
+    /** What this thread has made so far, in bytes; 0 where the machine does not count it. */
+    private static long bytesMade() {
+        Object bean = java.lang.management.ManagementFactory.getThreadMXBean();
+        if (bean instanceof com.sun.management.ThreadMXBean threads && threads.isThreadAllocatedMemorySupported()) {
+            return threads.getThreadAllocatedBytes(Thread.currentThread().getId());
+        }
+        return 0;
     }
 }

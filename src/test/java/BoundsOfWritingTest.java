@@ -6,6 +6,8 @@ final class BoundsOfWritingTest {
         theOpposite();
         infinite();
         kAsSmallAsCanBe();
+        whatRoundsToItAtTheVeryEnds();
+        whatRoundsToAPowerOf2();
         ofSeveralTheNearest();
         ofTwoAsNearTheEvenOne();
         theLeastAndTheGreatest();
@@ -67,6 +69,27 @@ final class BoundsOfWritingTest {
         Check.writes(5e-324, "5e-324");
     }
 
+    private static void whatRoundsToItAtTheVeryEnds() {
+        Check.sentence("s * 10^(n - k) rounds to it, also from the middle of two numbers if its fraction is even");
+        // the last place is 4: ..90 is 2 below the first, ..10 is 2 above the second, and both are even
+        Check.writes(0x1p54 + 8, "18014398509481990");
+        Check.writes(0x1p54 + 24, "18014398509482010");
+        // ..10 is 2 below the first, ..90 is 2 above the second, but both are odd
+        Check.writes(0x1p54 + 28, "18014398509482012");
+        Check.writes(0x1p54 + 4, "18014398509481988");
+    }
+
+    private static void whatRoundsToAPowerOf2() {
+        Check.sentence("s * 10^(n - k) rounds to it, also when the lower neighbour is twice as near as the upper one");
+        // shorter, or nearer, or as near and even ones below each of these round to the lower neighbour
+        Check.writes(0x1p65, "36893488147419103000");
+        Check.writes(0x1p66, "73786976294838210000");
+        Check.writes(0x1p89, "6.189700196426902e+26");
+        Check.writes(0x1p-24, "5.960464477539063e-8");
+        Check.writes(0x1p-1017, "7.120236347223045e-307");
+        Check.writes(0x1p-1019, "1.7800590868057611e-307");
+    }
+
     private static void ofSeveralTheNearest() {
         Check.sentence("of several s the one nearest to it");
         // 3 .. 7 would round to the first as well, 13 .. 17 to the third, 23 .. 27 to the fifth
@@ -95,6 +118,8 @@ final class BoundsOfWritingTest {
         Check.writes(0x1p49 + 0.75, "562949953421312.8");
         Check.writes(-0x1p50 - 0.25, "-1125899906842624.2");
         Check.writes(-0x1p50 - 0.75, "-1125899906842624.8");
+        // 2.98023223876953125e-8, of which the lower neighbour is twice as near
+        Check.writes(0x1p-25, "2.9802322387695312e-8");
     }
 
     private static void theLeastAndTheGreatest() {
@@ -156,6 +181,16 @@ final class BoundsOfWritingTest {
         Check.writes(1e22, "1e+22");
         Check.writes(1e99, "1e+99");
         Check.writes(1e100, "1e+100");
+        // each digit of an exponent, and the nines and zeros around it
+        Check.writes(3e109, "3e+109");
+        Check.writes(3e110, "3e+110");
+        Check.writes(3e199, "3e+199");
+        Check.writes(3e200, "3e+200");
+        Check.writes(3e299, "3e+299");
+        Check.writes(3e300, "3e+300");
+        Check.writes(3e-199, "3e-199");
+        Check.writes(3e-200, "3e-200");
+        Check.writes(3e-300, "3e-300");
         Check.writes(1e308, "1e+308");
     }
 

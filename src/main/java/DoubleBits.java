@@ -4,13 +4,11 @@
  */
 public final class DoubleBits {
     private final TextReader reader;
-    private final Page page;
     private final TextWriter writer;
 
     public DoubleBits() {
         reader = new TextReader();
-        page = new Page();
-        writer = new TextWriter(page);
+        writer = new TextWriter();
     }
 
     public int put(long units, int n) throws IllegalArgumentException, IllegalStateException {
@@ -104,7 +102,7 @@ public final class DoubleBits {
 
     public int write(long a) {
         writer.writeText(a);
-        return page.length();
+        return writer.length();
     }
 
     public int radix(long a, int radix) throws IllegalArgumentException {
@@ -112,7 +110,7 @@ public final class DoubleBits {
             throw new IllegalArgumentException("the radix is not 2 .. 36, or it is 10");
         }
         writer.writeInRadix(a, radix);
-        return page.length();
+        return writer.length();
     }
 
     public int form(long a, int form, int digits) throws IllegalArgumentException {
@@ -138,14 +136,14 @@ public final class DoubleBits {
             default:
                 throw new IllegalArgumentException("the form is not 0 .. 2");
         }
-        return page.length();
+        return writer.length();
     }
 
     public int unit(int k) throws IndexOutOfBoundsException {
-        if (k < 0 || k >= page.length()) {
+        if (k < 0 || k >= writer.length()) {
             throw new IndexOutOfBoundsException("there is no such unit");
         }
-        return page.unitAt(k);
+        return writer.unitAt(k);
     }
 
     /** What the 64 bits of a number say, and the way from an exact value to them. */
@@ -888,10 +886,18 @@ public final class DoubleBits {
         private final Decimal decimal;
         private final Natural natural;
 
-        TextWriter(Page page) {
-            this.page = page;
+        TextWriter() {
+            page = new Page();
             decimal = new Decimal();
             natural = new Natural();
+        }
+
+        int length() {
+            return page.length();
+        }
+
+        int unitAt(int k) {
+            return page.unitAt(k);
         }
 
         /** Begins the page anew; answers whether all is written, a being NAN or infinite. */

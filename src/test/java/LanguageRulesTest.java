@@ -29,6 +29,7 @@ final class LanguageRulesTest {
         methodsStayShort(code);
         classesInside();
         namesOfTheFaceAreItsOwn();
+        constructorsHandOutNothing(code);
         Check.end();
     }
 
@@ -85,5 +86,21 @@ final class LanguageRulesTest {
                 Check.isTrue(method + " has a name of its own", !face.contains(method.getName()));
             }
         }
+    }
+
+    /** A line of a constructor sets a field to a constant, or to a row or an object that takes nothing of this one. */
+    private static void constructorsHandOutNothing(String code) {
+        Check.sentence("Rule 12: A constructor .. hands out nothing of the object that it makes");
+        Matcher made = Pattern.compile("(?m)^ +(?:public )?([A-Z]\\w+)\\(([^)]*)\\) \\{\n([^}]*)\\}").matcher(code);
+        int found = 0;
+        while (made.find()) {
+            Check.same("what the constructor of " + made.group(1) + " takes", made.group(2), "");
+            for (String line : made.group(3).strip().split("\n")) {
+                Check.isTrue("'" + line.strip() + "' in the constructor of " + made.group(1) + " hands out nothing",
+                        line.strip().matches("\\w+ = (\\d+|new (int|long|char)\\[[A-Z_]+\\]|new [A-Z]\\w+\\(\\));"));
+            }
+            found++;
+        }
+        Check.isTrue("constructors are found", found > 1);
     }
 }

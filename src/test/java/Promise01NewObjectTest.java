@@ -2,10 +2,25 @@ import java.lang.reflect.Constructor;
 import java.lang.reflect.Field;
 import java.lang.reflect.Method;
 import java.lang.reflect.Modifier;
+import java.util.List;
 import java.util.TreeSet;
 
 /** Promise 1: a new object has no text, and nothing is written. */
 final class Promise01NewObjectTest {
+    private static final String[] FACE = {
+        "public int put(long, int) throws IllegalArgumentException, IllegalStateException",
+        "public long read()",
+        "public long reckon(long, long, int) throws IllegalArgumentException",
+        "public long turn(long, int) throws IllegalArgumentException",
+        "public int compare(long, long)",
+        "public long whole(long, int) throws IllegalArgumentException",
+        "public long of(long)",
+        "public int write(long)",
+        "public int radix(long, int) throws IllegalArgumentException",
+        "public int form(long, int, int) throws IllegalArgumentException",
+        "public int unit(int) throws IndexOutOfBoundsException"
+    };
+
     public static void main(String[] args) {
         noText();
         nothingWritten();
@@ -47,13 +62,15 @@ final class Promise01NewObjectTest {
         Check.sentence("The public face");
         Check.isTrue("public and final", Modifier.isPublic(DoubleBits.class.getModifiers())
                 && Modifier.isFinal(DoubleBits.class.getModifiers()));
-        TreeSet<String> names = new TreeSet<>();
+        TreeSet<String> methods = new TreeSet<>();
         for (Method method : DoubleBits.class.getDeclaredMethods()) {
             if (!Modifier.isPrivate(method.getModifiers()) && !method.isSynthetic()) {
-                names.add(method.getName());
+                methods.add(told(method));
             }
         }
-        Check.same("the methods", String.join(" ", names), "compare form of put radix read reckon turn unit whole write");
+        Check.same("the methods", String.join("\n", methods), String.join("\n", new TreeSet<>(List.of(FACE))));
+        Check.same("the constructors that can be seen", DoubleBits.class.getConstructors().length, 1);
+        Check.same("all constructors", DoubleBits.class.getDeclaredConstructors().length, 1);
         for (Constructor<?> constructor : DoubleBits.class.getConstructors()) {
             Check.same("a constructor's parameters", constructor.getParameterCount(), 0);
         }
@@ -61,5 +78,10 @@ final class Promise01NewObjectTest {
             Check.isTrue("field " + field.getName() + " is private",
                     Modifier.isPrivate(field.getModifiers()) || field.isSynthetic());
         }
+    }
+
+    /** As the document writes it. */
+    private static String told(Method method) {
+        return method.toString().replace("DoubleBits.", "").replace("java.lang.", "").replace(",", ", ");
     }
 }
